@@ -1,0 +1,6 @@
+public final class FaceTest {
+    public static void main(String[] args) {
+        Due.is("NONE", -1, RodBench.NONE);
+        Due.end();
+    }
+}
