@@ -45,8 +45,8 @@ public final class RodBench {
         if (frame.pins.size() >= MOST_PINS) {
             return FULL;
         }
-        frame.changes++;
         frame.pins.add(new Pin(frame.pins.size(), x, y));
+        renew();
         return frame.pins.size() - 1;
     }
 
@@ -59,9 +59,9 @@ public final class RodBench {
         if (there != null && there != mover) {
             return STATE;
         }
-        frame.changes++;
         mover.x = x;
         mover.y = y;
+        renew();
         return 1;
     }
 
@@ -73,10 +73,10 @@ public final class RodBench {
         if (one.held == held) {
             return 0;
         }
-        frame.changes++;
         one.held = held;
         one.forceX = 0;
         one.forceY = 0;
+        renew();
         return 1;
     }
 
@@ -95,8 +95,8 @@ public final class RodBench {
         if (frame.rods.size() >= MOST_RODS) {
             return FULL;
         }
-        frame.changes++;
         frame.rods.add(new Rod(frame.rods.size(), kind, first, second, price));
+        renew();
         return frame.rods.size() - 1;
     }
 
@@ -111,20 +111,20 @@ public final class RodBench {
         if (one.in == in) {
             return 0;
         }
-        frame.changes++;
         one.in = in;
+        renew();
         return 1;
     }
 
     public int count(int what) {
         switch (what) {
             case 0: return frame.pins.size();
-            case 1: return frame.freeCount();
+            case 1: return frame.freePins.size();
             case 2: return frame.rods.size();
-            case 3: return frame.inCount();
+            case 3: return frame.rodsIn.size();
             case 4: return balance.motionCount();
             case 5: return balance.stressCount();
-            case 6: return 2 * frame.freeCount() - balance.motionCount();
+            case 6: return 2 * frame.freePins.size() - balance.motionCount();
             case 7: return bodies.bodyCount();
             case 8: return bodies.surplus();
             case 9: return neededCount();
@@ -198,9 +198,9 @@ public final class RodBench {
         if (one.held) {
             return STATE;
         }
-        frame.changes++;
         one.forceX = x;
         one.forceY = y;
+        renew();
         return 1;
     }
 
@@ -265,10 +265,18 @@ public final class RodBench {
         return kind == SPARE ? price >= 1 && price <= MOST_PRICE : price == 0;
     }
 
+    /** Works out anew, after each change, what depends on the frame. */
+    private void renew() {
+        frame.renew();
+        balance.renew();
+        offers.renew();
+        bodies.renew();
+    }
+
     private int neededCount() {
         int needed = 0;
-        for (int i = 0; i < frame.rods.size(); i++) {
-            if (balance.isNeeded(frame.rods.get(i))) {
+        for (int i = 0; i < frame.rodsIn.size(); i++) {
+            if (balance.isNeeded(frame.rodsIn.get(i))) {
                 needed++;
             }
         }
@@ -277,8 +285,8 @@ public final class RodBench {
 
     /** Whether the only stress, taken with that sign, pulls every rope and pushes every prop. */
     private boolean isTightAs(int sign) {
-        for (int i = 0; i < frame.rods.size(); i++) {
-            Rod rod = frame.rods.get(i);
+        for (int i = 0; i < frame.rodsIn.size(); i++) {
+            Rod rod = frame.rodsIn.get(i);
             long number = sign * balance.stressNumber(0, rod);
             if (rod.kind == ROPE && number <= 0 || rod.kind == PROP && number >= 0) {
                 return false;
@@ -332,9 +340,13 @@ public final class RodBench {
             return first == a && second == b || first == b && second == a;
         }
 
+        boolean endsAt(Pin pin) {
+            return first == pin || second == pin;
+        }
+
         /** The pin's place less the other end's, along x (axis 0) or y (1); 0 if it is no end. */
         int reach(Pin pin, int axis) {
-            if (pin != first && pin != second) {
+            if (!endsAt(pin)) {
                 return 0;
             }
             Pin other = pin == first ? second : first;
@@ -356,8 +368,24 @@ public final class RodBench {
     private static final class Frame {
         final List<Pin> pins = new ArrayList<>();
         final List<Rod> rods = new ArrayList<>();
-        /** Goes up with each change, so that what was worked out before is known to be old. */
-        int changes = 0;
+        final List<Pin> freePins = new ArrayList<>();
+        final List<Rod> rodsIn = new ArrayList<>();
+
+        /** Lists anew, after a change, the pins that are free and the rods that are in. */
+        void renew() {
+            freePins.clear();
+            for (int i = 0; i < pins.size(); i++) {
+                if (!pins.get(i).held) {
+                    freePins.add(pins.get(i));
+                }
+            }
+            rodsIn.clear();
+            for (int i = 0; i < rods.size(); i++) {
+                if (rods.get(i).in) {
+                    rodsIn.add(rods.get(i));
+                }
+            }
+        }
 
         boolean isPin(int pin) {
             return pin >= 0 && pin < pins.size();
@@ -386,53 +414,14 @@ public final class RodBench {
             return false;
         }
 
-        int freeCount() {
-            int free = 0;
-            for (int i = 0; i < pins.size(); i++) {
-                if (!pins.get(i).held) {
-                    free++;
-                }
-            }
-            return free;
-        }
-
-        int inCount() {
-            int in = 0;
-            for (int i = 0; i < rods.size(); i++) {
-                if (rods.get(i).in) {
-                    in++;
-                }
-            }
-            return in;
-        }
-
         int rodsInAt(Pin pin) {
-            int in = 0;
-            for (int i = 0; i < rods.size(); i++) {
-                Rod rod = rods.get(i);
-                if (rod.in && (rod.first == pin || rod.second == pin)) {
-                    in++;
+            int ends = 0;
+            for (int i = 0; i < rodsIn.size(); i++) {
+                if (rodsIn.get(i).endsAt(pin)) {
+                    ends++;
                 }
             }
-            return in;
-        }
-
-        void listFreePins(List<Pin> list) {
-            list.clear();
-            for (int i = 0; i < pins.size(); i++) {
-                if (!pins.get(i).held) {
-                    list.add(pins.get(i));
-                }
-            }
-        }
-
-        void listRodsIn(List<Rod> list) {
-            list.clear();
-            for (int i = 0; i < rods.size(); i++) {
-                if (rods.get(i).in) {
-                    list.add(rods.get(i));
-                }
-            }
+            return ends;
         }
 
         /**
@@ -441,7 +430,7 @@ public final class RodBench {
          * about it, two leave nothing, and a single free pin cannot tell a turn from a shift.
          */
         int planeMotions() {
-            int free = freeCount();
+            int free = freePins.size();
             int held = pins.size() - free;
             if (free == 0 || held > 1) {
                 return 0;
@@ -500,7 +489,7 @@ public final class RodBench {
                     looseCount++;
                 } else {
                     taken[row] = true;
-                    makeAboveNought(row, column);
+                    makeAboveNought(cells[row], column);
                     clearColumn(row, column);
                 }
             }
@@ -587,12 +576,12 @@ public final class RodBench {
             return NONE;
         }
 
-        private void makeAboveNought(int row, int column) {
-            if (cells[row][column] > 0) {
+        private void makeAboveNought(long[] line, int column) {
+            if (line[column] > 0) {
                 return;
             }
             for (int i = 0; i <= columns; i++) {
-                cells[row][i] = -cells[row][i];
+                line[i] = -line[i];
             }
         }
 
@@ -600,6 +589,7 @@ public final class RodBench {
             for (int row = 0; row < rows; row++) {
                 if (row != own && cells[row][column] != 0) {
                     takeOff(cells[row], cells[own], column);
+                    shrink(cells[row]);
                 }
             }
         }
@@ -615,7 +605,6 @@ public final class RodBench {
             for (int i = 0; i <= columns; i++) {
                 line[i] = times * line[i] - offTimes * off[i];
             }
-            shrink(line);
         }
 
         private void shrink(long[] line) {
@@ -670,23 +659,18 @@ public final class RodBench {
     /** The motions, stresses and forces of the frame. */
     private static final class Balance {
         private final Frame frame;
-        private final List<Pin> freePins = new ArrayList<>();
-        private final List<Rod> rodsIn = new ArrayList<>();
         private final Table motions = new Table();
         private final Table stresses = new Table();
-        private int seen = NONE;
 
         Balance(Frame frame) {
             this.frame = frame;
         }
 
         int motionCount() {
-            settle();
             return motions.looseColumns();
         }
 
         int stressCount() {
-            settle();
             return stresses.looseColumns();
         }
 
@@ -699,9 +683,8 @@ public final class RodBench {
         }
 
         long motionNumber(int i, Pin pin, int axis) {
-            settle();
-            for (int place = 0; place < freePins.size(); place++) {
-                if (freePins.get(place) == pin) {
+            for (int place = 0; place < frame.freePins.size(); place++) {
+                if (frame.freePins.get(place) == pin) {
                     return motions.answer(i, 2 * place + axis);
                 }
             }
@@ -709,14 +692,12 @@ public final class RodBench {
         }
 
         long stressNumber(int i, Rod rod) {
-            settle();
             return rod.in ? stresses.answer(i, columnOf(rod)) : 0;
         }
 
         boolean isNeeded(Rod rod) {
-            settle();
-            for (int i = 0; i < stresses.looseColumns(); i++) {
-                if (stresses.answer(i, columnOf(rod)) != 0) {
+            for (int i = 0; i < stressCount(); i++) {
+                if (stressNumber(i, rod) != 0) {
                     return false;
                 }
             }
@@ -724,52 +705,41 @@ public final class RodBench {
         }
 
         boolean isCarried() {
-            settle();
             return stresses.hasSolution();
         }
 
         long forceAbove(Rod rod) {
-            settle();
-            return stresses.solutionAbove(columnOf(rod));
+            return rod.in ? stresses.solutionAbove(columnOf(rod)) : 0;
         }
 
         long forceBelow(Rod rod) {
-            settle();
-            return stresses.solutionBelow(columnOf(rod));
+            return rod.in ? stresses.solutionBelow(columnOf(rod)) : 1;
         }
 
         long workOf(int i) {
-            settle();
             long work = 0;
-            for (int place = 0; place < freePins.size(); place++) {
-                Pin pin = freePins.get(place);
+            for (int place = 0; place < frame.freePins.size(); place++) {
+                Pin pin = frame.freePins.get(place);
                 work += motions.answer(i, 2 * place) * pin.forceX;
                 work += motions.answer(i, 2 * place + 1) * pin.forceY;
             }
             return work;
         }
 
-        /** The column of a rod among those that are in; NONE for one that is out. */
+        void renew() {
+            motions.layRodsAsRows(frame.rodsIn, frame.freePins);
+            motions.reduce();
+            stresses.layRodsAsColumns(frame.rodsIn, frame.freePins);
+            stresses.reduce();
+        }
+
         private int columnOf(Rod rod) {
-            for (int column = 0; column < rodsIn.size(); column++) {
-                if (rodsIn.get(column) == rod) {
+            for (int column = 0; column < frame.rodsIn.size(); column++) {
+                if (frame.rodsIn.get(column) == rod) {
                     return column;
                 }
             }
             return NONE;
-        }
-
-        private void settle() {
-            if (seen == frame.changes) {
-                return;
-            }
-            seen = frame.changes;
-            frame.listFreePins(freePins);
-            frame.listRodsIn(rodsIn);
-            motions.layRodsAsRows(rodsIn, freePins);
-            motions.reduce();
-            stresses.layRodsAsColumns(rodsIn, freePins);
-            stresses.reduce();
         }
     }
 
@@ -779,23 +749,19 @@ public final class RodBench {
      */
     private static final class Offers {
         private final Frame frame;
-        private final List<Pin> freePins = new ArrayList<>();
         private final List<Rod> queue = new ArrayList<>();
         private final List<Rod> taken = new ArrayList<>();
         private final Table table = new Table();
-        private int seen = NONE;
 
         Offers(Frame frame) {
             this.frame = frame;
         }
 
         int takenRod(int i) {
-            settle();
             return i >= 0 && i < taken.size() ? taken.get(i).number : NONE;
         }
 
         int priceOfAll() {
-            settle();
             int sum = 0;
             for (int i = 0; i < taken.size(); i++) {
                 sum += taken.get(i).price;
@@ -804,36 +770,36 @@ public final class RodBench {
         }
 
         boolean holds() {
-            settle();
-            return 2 * freePins.size() - table.rank() == frame.planeMotions();
+            return 2 * frame.freePins.size() - table.rank() == frame.planeMotions();
         }
 
-        private void settle() {
-            if (seen == frame.changes) {
-                return;
-            }
-            seen = frame.changes;
-            frame.listFreePins(freePins);
-            frame.listRodsIn(queue);
-            int in = queue.size();
-            queueRodsOut(in);
-            table.layRodsAsColumns(queue, freePins);
+        void renew() {
+            queueRodsIn();
+            queueRodsOut();
+            table.layRodsAsColumns(queue, frame.freePins);
             table.reduce();
             taken.clear();
-            for (int column = in; column < queue.size(); column++) {
+            for (int column = frame.rodsIn.size(); column < queue.size(); column++) {
                 if (!table.isLoose(column)) {
                     taken.add(queue.get(column));
                 }
             }
         }
 
+        private void queueRodsIn() {
+            queue.clear();
+            for (int i = 0; i < frame.rodsIn.size(); i++) {
+                queue.add(frame.rodsIn.get(i));
+            }
+        }
+
         /** Puts the rods that are out behind the others, by price and of equal ones by numbers. */
-        private void queueRodsOut(int in) {
+        private void queueRodsOut() {
             for (int i = 0; i < frame.rods.size(); i++) {
                 Rod rod = frame.rods.get(i);
                 if (!rod.in) {
                     int place = queue.size();
-                    while (place > in && queue.get(place - 1).price > rod.price) {
+                    while (place > frame.rodsIn.size() && queue.get(place - 1).price > rod.price) {
                         place--;
                     }
                     queue.add(place, rod);
@@ -856,14 +822,12 @@ public final class RodBench {
         private final int[] found = new int[SETS];
         private int foundCount = 0;
         private int greatest = 0;
-        private int seen = NONE;
 
         Bodies(Frame frame) {
             this.frame = frame;
         }
 
         int bodyCount() {
-            settle();
             return foundCount;
         }
 
@@ -872,18 +836,15 @@ public final class RodBench {
         }
 
         int surplus() {
-            settle();
-            return frame.inCount() - greatest;
+            return frame.rodsIn.size() - greatest;
         }
 
         boolean areAllOne() {
-            settle();
             int pins = frame.pins.size();
             return pins >= 2 && greatest == mostRods(pins);
         }
 
         int leastBodyOf(Rod rod) {
-            settle();
             int ends = endsOf(rod);
             for (int body = 0; body < foundCount; body++) {
                 if (holds(found[body], ends)) {
@@ -906,11 +867,7 @@ public final class RodBench {
             return NONE;
         }
 
-        private void settle() {
-            if (seen == frame.changes) {
-                return;
-            }
-            seen = frame.changes;
+        void renew() {
             greatest = mostEven(SETS - 1);
             foundCount = 0;
             for (int set = SETS - 1; set > 0; set--) {
@@ -943,10 +900,9 @@ public final class RodBench {
                 chosen[i] = 0;
             }
             int most = 0;
-            for (int i = 0; i < frame.rods.size(); i++) {
-                Rod rod = frame.rods.get(i);
-                int ends = endsOf(rod);
-                if (rod.in && holds(set, ends) && hasRoom(ends)) {
+            for (int i = 0; i < frame.rodsIn.size(); i++) {
+                int ends = endsOf(frame.rodsIn.get(i));
+                if (holds(set, ends) && hasRoom(ends)) {
                     choose(ends);
                     most++;
                 }
