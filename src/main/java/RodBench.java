@@ -15,6 +15,7 @@ public final class RodBench {
     private static final int MOST_FORCE = 20;
     private static final int MOST_PRICE = 1000;
 
+    private static final int ROD = 0;
     private static final int ROPE = 1;
     private static final int PROP = 2;
     private static final int SPARE = 3;
@@ -333,7 +334,7 @@ public final class RodBench {
 
         /** Whether it is of that kind or of one under it. */
         boolean isOf(int other) {
-            return other == 0 || kind == other || kind == GIFT && other == SPARE;
+            return other == ROD || kind == other || kind == GIFT && other == SPARE;
         }
 
         boolean joins(Pin a, Pin b) {
@@ -460,17 +461,18 @@ public final class RodBench {
 
         /** One row a rod, two columns a pin. */
         void layRodsAsRows(List<Rod> rods, List<Pin> pins) {
-            clear(rods.size(), 2 * pins.size());
+            start(rods.size(), 2 * pins.size());
             for (int row = 0; row < rows; row++) {
                 for (int column = 0; column < columns; column++) {
                     cells[row][column] = rods.get(row).reach(pins.get(column / 2), column % 2);
                 }
+                cells[row][columns] = 0;
             }
         }
 
         /** Two rows a pin, one column a rod; the pins' forces are the right side. */
         void layRodsAsColumns(List<Rod> rods, List<Pin> pins) {
-            clear(2 * pins.size(), rods.size());
+            start(2 * pins.size(), rods.size());
             for (int row = 0; row < rows; row++) {
                 Pin pin = pins.get(row / 2);
                 for (int column = 0; column < columns; column++) {
@@ -551,18 +553,15 @@ public final class RodBench {
                 return 1;
             }
             long[] line = cells[rowOf[column]];
-            return below(line[columns], line[column]);
+            return lowestBelow(line[columns], line[column]);
         }
 
-        private void clear(int newRows, int newColumns) {
+        private void start(int newRows, int newColumns) {
             rows = Math.min(newRows, MOST_RODS);
             columns = Math.min(newColumns, MOST_RODS);
             looseCount = 0;
-            for (int row = 0; row < MOST_RODS; row++) {
+            for (int row = 0; row < rows; row++) {
                 taken[row] = false;
-                for (int column = 0; column <= MOST_RODS; column++) {
-                    cells[row][column] = 0;
-                }
             }
         }
 
@@ -626,14 +625,14 @@ public final class RodBench {
             for (int column = 0; column < columns; column++) {
                 if (!isLoose(column)) {
                     long[] line = cells[rowOf[column]];
-                    scale = leastMultiple(scale, below(line[looseColumn], line[column]));
+                    scale = leastMultiple(scale, lowestBelow(line[looseColumn], line[column]));
                 }
             }
             return scale;
         }
 
         /** What stands below the line of a fraction in lowest terms. */
-        private static long below(long above, long below) {
+        private static long lowestBelow(long above, long below) {
             long shared = commonDivisor(above, below);
             return shared == 0 ? 1 : below / shared;
         }

@@ -23,6 +23,7 @@ public final class BalanceTest {
         carryAndGives();
         forceFractions();
         forceIsNoughtInLooseColumns();
+        forcesAtSixFreePins();
         forceRefused();
         Due.end();
     }
@@ -358,6 +359,33 @@ public final class BalanceTest {
         Due.is("between held ones: force(1, 1)", 1, x.force(1, 1));
         Due.is("loose: force(2, 0)", 0, x.force(2, 0));
         Due.is("loose: force(2, 1)", 1, x.force(2, 1));
+    }
+
+    /** A fan about pin 0: each rod is pulled along itself, and pin 0 holds against all. */
+    private static void forcesAtSixFreePins() {
+        RodBench x = new RodBench();
+        int[][] places = {{2, 2}, {5, 3}, {3, 5}, {0, 4}, {1, 0}, {4, 1}};
+        for (int[] place : places) {
+            x.pin(place[0], place[1]);
+        }
+        int sumX = 0;
+        int sumY = 0;
+        for (int pin = 1; pin < 6; pin++) {
+            x.rod(0, 0, pin, 0);
+            int forceX = pin * (places[pin][0] - 2);
+            int forceY = pin * (places[pin][1] - 2);
+            x.load(pin, forceX, forceY);
+            sumX += forceX;
+            sumY += forceY;
+            Due.is("a fan of " + pin + ", not in balance: carry()", 0, x.carry());
+            x.load(0, -sumX, -sumY);
+            Due.is("a fan of " + pin + ": carry()", 1, x.carry());
+            Due.is("a fan of " + pin + ": gives()", -1, x.gives());
+        }
+        for (int rod = 0; rod < 5; rod++) {
+            Due.is("a fan: force(" + rod + ", 0)", rod + 1, x.force(rod, 0));
+            Due.is("a fan: force(" + rod + ", 1)", 1, x.force(rod, 1));
+        }
     }
 
     private static void forceRefused() {

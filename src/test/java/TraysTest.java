@@ -144,6 +144,13 @@ public final class TraysTest {
         forge(x, 0, 1, 3, 1, 0);
         forge(x, 0, 1, -3, 0, 0);
         forge(x, 1, 1, 0, -1, 10);
+        x.hold(2, false);
+        tray(x, 0, 2, 3, 1, 0);
+        tray(x, 1, 2, 4, 1, 0);
+        for (int tray = 0; tray < 2; tray++) {
+            forge(x, tray, 1, 1, 1, 0);
+            forge(x, tray, 1, 0, 5, 0);
+        }
     }
 
     private static void prices() {
