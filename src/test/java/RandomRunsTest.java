@@ -3,6 +3,10 @@ import java.util.Random;
 /** Runs of calls, drawn with fixed seeds, on the class and on the Reference: they must agree. */
 public final class RandomRunsTest {
     private static final int RUNS = 1200;
+    /** An object is used for so many calls at most; each sixth run takes them all. */
+    private static final int MOST_CALLS = 512;
+    /** A change and what is asked behind it take no more calls than these. */
+    private static final int MOST_AT_ONCE = 6;
 
     private final Random random;
     private final RodBench bench = new RodBench();
@@ -14,7 +18,7 @@ public final class RandomRunsTest {
 
     private RandomRunsTest(long seed) {
         random = new Random(seed);
-        left = 30 + random.nextInt(200);
+        left = seed % 6 == 0 ? MOST_CALLS : 30 + random.nextInt(200);
         wide = 1 + random.nextInt(5);
     }
 
@@ -34,12 +38,16 @@ public final class RandomRunsTest {
         for (int i = 0; i < many; i++) {
             rod();
         }
-        while (left > 0 && Due.wrongOnes() == 0) {
+        while (left >= MOST_AT_ONCE && Due.wrongOnes() == 0) {
             if (random.nextInt(3) == 0) {
                 change();
             }
             ask();
         }
+        while (left > 0 && Due.wrongOnes() == 0) {
+            askRod();
+        }
+        Due.holds("no more calls than were meant: " + left, left == 0 || Due.wrongOnes() > 0);
     }
 
     private void change() {
