@@ -867,10 +867,10 @@ public final class RodBench {
         }
 
         void renew() {
-            greatest = mostEven(SETS - 1);
+            chooseRods();
             foundCount = 0;
             for (int set = SETS - 1; set > 0; set--) {
-                if (Integer.bitCount(set) >= 2 && !isInBody(set) && isWhole(set)) {
+                if (Integer.bitCount(set) >= 2 && isFilled(set) && !isInBody(set)) {
                     found[foundCount] = set;
                     foundCount++;
                 }
@@ -886,32 +886,27 @@ public final class RodBench {
             return false;
         }
 
-        private boolean isWhole(int set) {
-            return mostEven(set) == mostRods(Integer.bitCount(set));
-        }
-
         /**
-         * How many rods the greatest even set between those pins has. To take each rod that still
-         * leaves the set even never bars a greater one: even sets are a matroid.
+         * Chooses a greatest even set of rods. To take each rod that still leaves the set even never
+         * bars a greater one: even sets are a matroid.
          */
-        private int mostEven(int set) {
-            for (int i = 0; i < SETS; i++) {
-                chosen[i] = 0;
+        private void chooseRods() {
+            for (int set = 0; set < SETS; set++) {
+                chosen[set] = 0;
             }
-            int most = 0;
+            greatest = 0;
             for (int i = 0; i < frame.rodsIn.size(); i++) {
                 int ends = endsOf(frame.rodsIn.get(i));
-                if (holds(set, ends) && hasRoom(ends)) {
+                if (hasRoom(ends)) {
                     choose(ends);
-                    most++;
+                    greatest++;
                 }
             }
-            return most;
         }
 
         private boolean hasRoom(int ends) {
             for (int set = ends; set < SETS; set++) {
-                if (holds(set, ends) && chosen[set] >= mostRods(Integer.bitCount(set))) {
+                if (holds(set, ends) && isFilled(set)) {
                     return false;
                 }
             }
@@ -924,6 +919,15 @@ public final class RodBench {
                     chosen[set]++;
                 }
             }
+        }
+
+        /**
+         * Whether as many rods as can be even were chosen between those pins. Each body is filled,
+         * whichever rods were chosen: each rod lies in a body, and a greatest even set has as many
+         * rods as all bodies can take together, so that none of them may take fewer.
+         */
+        private boolean isFilled(int set) {
+            return chosen[set] >= mostRods(Integer.bitCount(set));
         }
 
         /** How many rods between that many pins are even at the most. */
